@@ -338,8 +338,29 @@ public final class ModelTest {
         }
     }
 
+    /** Sets whose shortest doubtful row is far longer than the row that is kept can be. */
+    private static void farMeetings() {
+        String[] sets = {"001100 01 01000 100011 110001 000110", "001100 100011 111001 0110 11001 011011",
+            "01110 111001 110111 100011 001110 00", "11 10011 010100 011110 101010 111101",
+            "0110 10110 11001 11010 001101 011011", "00 01001 01010 001101 101000 110101"};
+        int[] bits = {47, 39, 38, 35, 33, 23};
+        for (int s = 0; s < sets.length; s++) {
+            WordCodes x = new WordCodes();
+            Model m = new Model();
+            for (String word : sets[s].split(" ")) {
+                int code = Model.code(word);
+                due(0, "add(" + code + ")", m, x.add(code), m.add(code));
+            }
+            due(0, "shortest() of the model", m, m.shortest(), bits[s]);
+            askSet(0, x, m);
+            due(0, "reverse()", m, x.reverse(), m.reverse());
+            askSet(0, x, m);
+        }
+    }
+
     public static void main(String[] args) {
         smallSets();
+        farMeetings();
         for (int run = 1; run <= RUNS; run++) {
             run(run);
         }
